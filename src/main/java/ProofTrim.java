@@ -529,7 +529,7 @@ public final class ProofTrim {
      * has lower numbers. Numbers 0 to 8 are ATOMS and no: their words' codes.
      */
     private static final class Formulas {
-        // Each word that is fed makes one at most, and 512 calls feed fewer than 5000 that are read.
+        // Each word that is read makes one at most, and 512 calls feed 5110 words at most.
         private static final int ROOM = 5200;
         private static final int HEADS = 1024;
 
@@ -1868,22 +1868,27 @@ public final class ProofTrim {
         private static final int MEMO = 2048;
         private static final int MEMO_FILL = 1536;
         private static final int DEEPEST = 64;
+        private static final long ALL = -1L;
 
         private final Parts parts;
+        private final int[] kinds = new int[SEARCH_WORDS];
+        private final long[] lefts = new long[SEARCH_WORDS];
+        private final long[] rights = new long[SEARCH_WORDS];
         private final long[] memoKeys = new long[MEMO];
         private final long[] memoSets = new long[MEMO];
         private final boolean[] memoUsed = new boolean[MEMO];
         private int memoCount;
         private int many;
         private long goalBit;
-        private long askedImps;
+        private long noBit;
+        private long askedParts;
 
         Decider(Parts parts) {
             this.parts = parts;
         }
 
         boolean decide(Hypotheses given, int goal) {
-            many = Math.min(parts.many, SEARCH_WORDS);
+            takeParts();
             memoCount = 0;
             for (int i = 0; i < MEMO; i++) {
                 memoUsed[i] = false;
@@ -1893,35 +1898,40 @@ public final class ProofTrim {
                 known |= bit(parts.spotOf(given.formulaOf(k)));
             }
             goalBit = bit(parts.spotOf(goal));
-            askedImps = findAskedImps(known);
+            askedParts = findAsked(known);
             return (close(known, 0) & goalBit) != 0;
         }
 
+        private void takeParts() {
+            many = Math.min(parts.many, SEARCH_WORDS);
+            noBit = 0;
+            for (int i = 0; i < many; i++) {
+                kinds[i] = parts.kindAt(i);
+                lefts[i] = kinds[i] < IMP ? 0 : bit(parts.leftAt(i));
+                rights[i] = kinds[i] < IMP ? 0 : bit(parts.rightAt(i));
+                if (kinds[i] == NO) {
+                    noBit = bit(i);
+                }
+            }
+        }
+
         private static long bit(int i) {
-            return i >= 0 && i < 63 ? 1L << i : 0L;
+            return i >= 0 && i < SEARCH_WORDS ? 1L << i : 0L;
         }
 
-        private static boolean has(long set, int i) {
-            return (set & bit(i)) != 0;
-        }
-
-        /** imps that stand where something is to be proved, not where it is known. */
-        private long findAskedImps(long known) {
+        /** PARTS that stand where something is to be proved, not only where it is known. */
+        private long findAsked(long known) {
             long asked = goalBit;
             long granted = known;
             for (int i = many - 1; i >= 0; i--) {
-                int kind = parts.kindAt(i);
-                if (kind >= IMP) {
-                    long left = bit(parts.leftAt(i));
-                    long right = bit(parts.rightAt(i));
-                    if (has(asked, i)) {
-                        asked |= kind == IMP ? right : left | right;
-                        granted |= kind == IMP ? left : 0;
-                    }
-                    if (has(granted, i)) {
-                        granted |= kind == IMP ? right : left | right;
-                        asked |= kind == IMP ? left : 0;
-                    }
+                boolean isImp = kinds[i] == IMP;
+                if ((asked >>> i & 1) != 0) {
+                    asked |= isImp ? rights[i] : lefts[i] | rights[i];
+                    granted |= isImp ? lefts[i] : 0;
+                }
+                if ((granted >>> i & 1) != 0) {
+                    granted |= isImp ? rights[i] : lefts[i] | rights[i];
+                    asked |= isImp ? lefts[i] : 0;
                 }
             }
             return asked;
@@ -1930,8 +1940,8 @@ public final class ProofTrim {
         /** All PARTS that matter and follow from a set. */
         private long close(long set, int deep) {
             long known = saturate(set);
-            if (holdsNo(known)) {
-                return -1L;
+            if ((known & noBit) != 0) {
+                return ALL;
             }
             if (deep > DEEPEST) {
                 return known;
@@ -1942,80 +1952,61 @@ public final class ProofTrim {
             }
             int either = openOr(known);
             long all;
-            if (either == NONE) {
-                all = tryImps(known, deep);
+            if (either >= 0 && either < many) {
+                all = close(known | lefts[either], deep + 1) & close(known | rights[either], deep + 1);
             } else {
-                all = close(known | bit(parts.leftAt(either)), deep + 1)
-                    & close(known | bit(parts.rightAt(either)), deep + 1);
+                all = tryImps(known, deep);
             }
             remember(known, all);
             return all;
         }
 
+        /** Tries imps in turn, till none of them has come into the set for a whole turn. */
         private long tryImps(long start, int deep) {
             long known = start;
-            for (int round = 0; round <= many; round++) {
-                int holding = holdingImp(known, deep);
-                if (holding == NONE) {
-                    return known;
-                }
-                known = saturate(known | bit(holding));
-                if (holdsNo(known) || openOr(known) != NONE) {
-                    return close(known, deep + 1);
+            long matter = mattering(known);
+            int idle = 0;
+            for (int turn = 0; turn < many * (many + 1) && idle < many; turn++) {
+                int i = turn % many;
+                idle++;
+                boolean open = kinds[i] == IMP && (known & (lefts[i] | 1L << i)) == 0;
+                if (open && (matter >>> i & 1) != 0 && (close(known | lefts[i], deep + 1) & rights[i]) != 0) {
+                    known = saturate(known | 1L << i);
+                    if ((known & noBit) != 0 || openOr(known) != NONE) {
+                        return close(known, deep + 1);
+                    }
+                    matter = mattering(known);
+                    idle = 0;
                 }
             }
             return known;
-        }
-
-        /** An imp that matters, is not in the set and follows from it, or NONE. */
-        private int holdingImp(long known, int deep) {
-            long matter = mattering(known);
-            for (int i = 0; i < many; i++) {
-                int from = parts.leftAt(i);
-                boolean open = parts.kindAt(i) == IMP && !has(known, i) && !has(known, from);
-                if (open && has(matter, i) && has(close(known | bit(from), deep + 1), parts.rightAt(i))) {
-                    return i;
-                }
-            }
-            return NONE;
         }
 
         /** What may be asked of a set: the goal, where tried imps lead to, what known imps are from. */
         private long mattering(long known) {
             long matter = goalBit;
             for (int i = 0; i < many; i++) {
-                if (parts.kindAt(i) == IMP) {
-                    if (has(askedImps, i) && has(known, parts.leftAt(i))) {
-                        matter |= bit(parts.rightAt(i));
+                if (kinds[i] == IMP) {
+                    if ((askedParts >>> i & 1) != 0 && (known & lefts[i]) != 0) {
+                        matter |= rights[i];
                     }
-                    if (has(known, i) && !has(known, parts.rightAt(i))) {
-                        matter |= bit(parts.leftAt(i));
+                    if ((known >>> i & 1) != 0 && (known & rights[i]) == 0) {
+                        matter |= lefts[i];
                     }
                 }
             }
             for (int i = many - 1; i >= 0; i--) {
-                int kind = parts.kindAt(i);
-                if (has(matter, i) && (kind == AND || kind == OR)) {
-                    matter |= bit(parts.leftAt(i)) | bit(parts.rightAt(i));
+                if (kinds[i] > IMP && (matter >>> i & 1) != 0) {
+                    matter |= lefts[i] | rights[i];
                 }
             }
             return matter;
         }
 
-        private boolean holdsNo(long set) {
-            for (int i = 0; i < many; i++) {
-                if (parts.kindAt(i) == NO) {
-                    return has(set, i);
-                }
-            }
-            return false;
-        }
-
         /** An or in the set neither side of which is in it, or NONE. */
         private int openOr(long set) {
             for (int i = 0; i < many; i++) {
-                if (parts.kindAt(i) == OR && has(set, i)
-                        && !has(set, parts.leftAt(i)) && !has(set, parts.rightAt(i))) {
+                if (kinds[i] == OR && (set >>> i & 1) != 0 && (set & (lefts[i] | rights[i])) == 0) {
                     return i;
                 }
             }
@@ -2028,7 +2019,9 @@ public final class ProofTrim {
             for (int round = 0; round <= SEARCH_WORDS; round++) {
                 long before = known;
                 for (int i = 0; i < many; i++) {
-                    known |= atOnce(known, i);
+                    if (kinds[i] >= IMP) {
+                        known |= atOnce(known, i);
+                    }
                 }
                 if (known == before) {
                     return known;
@@ -2037,24 +2030,25 @@ public final class ProofTrim {
             return known;
         }
 
+        /** What follows from a set by PART i alone, within it or not. */
         private long atOnce(long known, int i) {
-            long left = bit(parts.leftAt(i));
-            long right = bit(parts.rightAt(i));
-            boolean hasLeft = (known & left) != 0;
-            boolean hasRight = (known & right) != 0;
-            switch (parts.kindAt(i)) {
+            if (i < 0 || i >= SEARCH_WORDS) {
+                return 0;
+            }
+            boolean within = (known >>> i & 1) != 0;
+            boolean hasLeft = (known & lefts[i]) != 0;
+            boolean hasRight = (known & rights[i]) != 0;
+            switch (kinds[i]) {
                 case IMP:
-                    return hasRight ? bit(i) : has(known, i) && hasLeft ? right : 0;
+                    return hasRight ? 1L << i : within && hasLeft ? rights[i] : 0;
                 case AND:
-                    return has(known, i) ? left | right : hasLeft && hasRight ? bit(i) : 0;
-                case OR:
-                    return hasLeft || hasRight ? bit(i) : 0;
+                    return within ? lefts[i] | rights[i] : hasLeft && hasRight ? 1L << i : 0;
                 default:
-                    return 0;
+                    return hasLeft || hasRight ? 1L << i : 0;
             }
         }
 
-        /** Where a set is remembered, or would be; NONE if the memo is full. */
+        /** Where a set is remembered, or would be; NONE if there is no room. */
         private int memoSpot(long key) {
             long mixed = key * 0x9E3779B97F4A7C15L;
             int spot = (int) (mixed >>> 40) & (MEMO - 1);
