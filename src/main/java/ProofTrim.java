@@ -1499,11 +1499,11 @@ public final class ProofTrim {
             int level = layout.depthOf(redex);
             int arm = layout.endOf(inner + 1);
             target.add(CASE, 0);
-            copyPlain(inner + 1, arm);
+            copyDeeper(source, inner + 1, arm, 0, 0);
             for (int k = 0; k < 2; k++) {
                 int armEnd = layout.endOf(arm);
                 target.add(source.opAt(redex), source.argAt(redex));
-                copyPlain(arm, armEnd);
+                copyDeeper(source, arm, armEnd, 0, 0);
                 copyDeeper(source, layout.endOf(inner), layout.endOf(redex), level, 1);
                 arm = armEnd;
             }
