@@ -21,6 +21,7 @@ public final class ProofTrim {
     private static final int MAX_STEPS = 60;
     private static final int SEARCH_WORDS = 40;
     private static final int BLANK = 32;
+    private static final long MOST_BYTES = 2147483647L;
 
     // All words, each as wide as the widest; a word's number in this row is its code.
     private static final String WORDS = "p    q    r    s    t    u    v    w    no   imp  and  or   not  fun  app  pair fst  snd  inl  inr  case abort";
@@ -241,7 +242,7 @@ public final class ProofTrim {
             return NOT_NOW;
         }
         spellSlot(slot, what, NONE);
-        return (int) Math.min(speller.spelt, (long) Integer.MAX_VALUE);
+        return (int) Math.min(speller.spelt, MOST_BYTES);
     }
 
     private void spellSlot(int slot, int what, int wanted) {

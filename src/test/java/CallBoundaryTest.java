@@ -102,6 +102,25 @@ public final class CallBoundaryTest {
         Bench.no(-5, "side(1)", x -> x.side(1));
     }
 
+    private static void aheadOfNone() {
+        full("3.: all these ahead of NONE");
+        Bench.no(-2, "hypothesis, k", x -> x.hypothesis(5, 0, MOST));
+        Bench.no(-2, "hypothesis, what", x -> x.hypothesis(0, 2, MOST));
+        Bench.no(-2, "spell, the SLOT", x -> x.spell(4, 0, MOST));
+        Bench.no(-2, "spell, what", x -> x.spell(0, 3, MOST));
+        Bench.no(-5, "spell, empty", x -> x.spell(1, 0, MOST));
+        Bench.no(-2, "line, the SLOT", x -> x.line(4, 0, 1));
+        Bench.no(-5, "line, empty", x -> x.line(1, 0, 1));
+        Bench.no(-2, "line, k", x -> x.line(0, 10, 1));
+        Bench.no(-2, "lineByte, the SLOT", x -> x.lineByte(4, 0, MOST));
+        Bench.no(-5, "lineByte, empty", x -> x.lineByte(1, 0, MOST));
+        Bench.no(-2, "lineByte, k", x -> x.lineByte(0, 10, MOST));
+        Bench.proof(63, 1, "inl q " + steps(60));
+        Bench.proof(64, 2, "inl q " + steps(61));
+        Bench.no(-4, "side, too many", x -> x.side(2));
+        Bench.no(-5, "side, no or", x -> x.side(3));
+    }
+
     // ---- promises 1, 2
 
     private static void newObject() {
@@ -852,6 +871,17 @@ public final class CallBoundaryTest {
         Bench.goal(29, Bench.times(28, "not ") + "w");
         Bench.is(0, "classical", x -> x.classical());
         Bench.is(64, "against", x -> x.against());
+        Bench.says("promise 27: as many PARTS as a text can tell");
+        StringBuilder b = new StringBuilder();
+        for (int k = 0; k < 5; k++) {
+            b.append((char) ('a' + k)).append(' ').append(Bench.times(29, "not ")).append((char) ('q' + k)).append(';');
+        }
+        Bench.hypotheses(5, b.toString());
+        Bench.goal(30, Bench.times(29, "not ") + "w");
+        Bench.is(0, "classical", x -> x.classical());
+        Bench.is(128, "against", x -> x.against());
+        Bench.goal(30, Bench.times(29, "not ") + "q");
+        Bench.is(1, "classical", x -> x.classical());
         Bench.says("promise 27: by no set are all HYPOTHESES TRUE");
         Bench.hypotheses(1, "a no;");
         Bench.is(1, "classical", x -> x.classical());
@@ -932,6 +962,7 @@ public final class CallBoundaryTest {
 
     public static void main(String[] args) {
         allSlots();
+        aheadOfNone();
         newObject();
         feeding();
         texts();

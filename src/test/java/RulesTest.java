@@ -92,7 +92,7 @@ public final class RulesTest {
 
     private static void text() throws IOException {
         List<String> lines = Files.readAllLines(Path.of("src/main/java/ProofTrim.java"));
-        String banned = "\\b(throw|throws|try|catch|finally|synchronized|assert|import|package|protected|volatile|native|Object|var)\\b|->|::";
+        String banned = "\\b(Integer\\.[A-Z]\\w*|Long\\.[A-Z]\\w*|\\w+Exact|throw|throws|try|catch|finally|synchronized|assert|import|package|protected|volatile|native|Object|var)\\b|->|::";
         Pattern bannedWord = Pattern.compile(banned);
         Pattern method = Pattern.compile("^( {4}| {8})(public |private )?(static )?[A-Za-z\\[\\]]+ ?[A-Za-z]*\\(.*\\) \\{$");
         int began = -1;

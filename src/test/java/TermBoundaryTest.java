@@ -70,8 +70,12 @@ public final class TermBoundaryTest {
         given(sentence);
         Bench.feed(text);
         Bench.does(1, text + " is read", x -> x.proof(3, text.length()) > 0 ? 1 : 0);
+        Bench.is(kind == 0 ? 1 : 0, "NORMAL", x -> x.size(3, 6));
         Bench.does(kind, "step of " + text, x -> x.step(3));
         Bench.term(3, becomes);
+        Bench.feed(becomes);
+        Bench.does(1, becomes + " is read", x -> x.proof(1, becomes.length()) > 0 ? 1 : 0);
+        Bench.is(1, "equal to what is told so", x -> x.equal(1, 3));
     }
 
     private static void contracta() {
@@ -93,7 +97,20 @@ public final class TermBoundaryTest {
         stepTo("7 abort of what the other one PROVES: snd", 7, "snd abort and p q n", "abort q n");
         stepTo("7 abort of what the other one PROVES: case", 7, "case abort or p q n b pair b a c pair a a", "abort and p p n");
         stepTo("7 abort of what the other one PROVES: abort", 7, "abort r abort no n", "abort r n");
+        stepTo("6 that case outside: its own first TERM has a NAME in it", 6, "fun b or p q fst case b c f e f",
+            "fun xa or p q case xa xb fst f xb fst f");
         stepTo("7 of a case that PROVES a NAME's FORMULA", 7, "fun h s case abort or p q n b h c h", "fun xa s abort s n");
+    }
+
+    /** Other SLOTS are asked between, so that nothing that was found for them is taken for this one's. */
+    private static void otherSlots() {
+        given("7 abort of what the other one PROVES, whatever was asked ahead of it");
+        Bench.proof(4, 0, "app abort imp p s n a");
+        Bench.proof(4, 1, "fst pair n a");
+        Bench.is(3, "unlike FORMULAS of another SLOT", x -> x.size(1, 3));
+        Bench.does(7, "step", x -> x.step(0));
+        Bench.term(0, "abort s n");
+        Bench.proves(0, "s");
     }
 
     private static void firstRedex() {
@@ -113,6 +130,11 @@ public final class TermBoundaryTest {
         stepTo(apart, 1, "fun c p app fun b p fun c p b c", "fun xa p fun xb p xa");
         stepTo(apart, 1, "fun c p app fun b p fun c q fun e q pair b c c", "fun xa p fun xb q fun xc q pair xa xb");
         stepTo(apart, 1, "app fun b imp p q fun c p app b c fun c p app g c", "fun xa p app fun xb p app g xb xa");
+        stepTo("a fun that is put under other NAMES keeps its own", 1, "fun c p app fun b imp p p fun e q b fun z p z",
+            "fun xa p fun xb q fun xc p xc");
+        stepTo("a case that is put under other NAMES keeps its own", 1,
+            "fun c p app fun b or p q fun e q fun i q b case d y inl q y z inr p z",
+            "fun xa p fun xb q fun xc q case d xd inl q xd xd inr p xd");
         stepTo(apart, 4, "fun c p case inl q c b fun c p b e fun z p z", "fun xa p fun xb p xa");
         stepTo(apart, 5, "fun c q case inr p c b fun z p c e fun c p e", "fun xa q fun xb p xa");
         stepTo(apart, 6, "fun b p app case d c fun e p b c fun e p b b",
@@ -144,6 +166,10 @@ public final class TermBoundaryTest {
         Bench.hypotheses(3, "x p; name q; a or p q;");
         Bench.proof(9, 0, "fun name q case a x pair x name zz pair x zz");
         Bench.term(0, "fun xa q case a xb pair xb xa xb pair x xb");
+        given("NAMES of HYPOTHESES of 1 to 4 letters, as told");
+        Bench.hypotheses(4, "a p; bc p; def p; ghij p;");
+        Bench.proof(9, 0, "pair pair a bc pair def pair ghij a");
+        Bench.term(0, "pair pair a bc pair def pair ghij a");
         given("of case: of that TERM, not of the others in it");
         Bench.proof(7, 0, "case app fun b or p q b d e n i n");
         Bench.term(0, "case app fun xa or p q xa d xa n xa n");
@@ -319,6 +345,7 @@ public final class TermBoundaryTest {
         redexes();
         normalOnes();
         contracta();
+        otherSlots();
         firstRedex();
         noCapture();
         spelling();
