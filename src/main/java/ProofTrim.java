@@ -1866,8 +1866,9 @@ public final class ProofTrim {
      * has a side are the worlds of a Kripke model against the rest.
      */
     private static final class Decider {
-        private static final int MEMO = 2048;
-        private static final int MEMO_FILL = 1536;
+        // Of the hardest searches that were found none meets more sets; a fuller memo makes them long.
+        private static final int MEMO = 8192;
+        private static final int MEMO_FILL = 6144;
         private static final int DEEPEST = 64;
         private static final long ALL = -1L;
 
@@ -1875,9 +1876,9 @@ public final class ProofTrim {
         private final int[] kinds = new int[SEARCH_WORDS];
         private final long[] lefts = new long[SEARCH_WORDS];
         private final long[] rights = new long[SEARCH_WORDS];
+        // One more than the set: 0 is where none is remembered.
         private final long[] memoKeys = new long[MEMO];
         private final long[] memoSets = new long[MEMO];
-        private final boolean[] memoUsed = new boolean[MEMO];
         private int memoCount;
         private int many;
         private long goalBit;
@@ -1892,7 +1893,7 @@ public final class ProofTrim {
             takeParts();
             memoCount = 0;
             for (int i = 0; i < MEMO; i++) {
-                memoUsed[i] = false;
+                memoKeys[i] = 0;
             }
             long known = 0;
             for (int k = 0; k < given.many; k++) {
@@ -1948,7 +1949,7 @@ public final class ProofTrim {
                 return known;
             }
             int spot = memoSpot(known);
-            if (spot >= 0 && spot < MEMO && memoUsed[spot]) {
+            if (spot >= 0 && spot < MEMO && memoKeys[spot] != 0) {
                 return memoSets[spot];
             }
             int either = openOr(known);
@@ -2054,7 +2055,7 @@ public final class ProofTrim {
             long mixed = key * 0x9E3779B97F4A7C15L;
             int spot = (int) (mixed >>> 40) & (MEMO - 1);
             for (int i = 0; i < MEMO; i++) {
-                if (!memoUsed[spot] || memoKeys[spot] == key) {
+                if (memoKeys[spot] == 0 || memoKeys[spot] == key + 1) {
                     return spot;
                 }
                 spot = (spot + 1) & (MEMO - 1);
@@ -2065,9 +2066,8 @@ public final class ProofTrim {
         private void remember(long key, long set) {
             int spot = memoSpot(key);
             if (memoCount < MEMO_FILL && spot >= 0 && spot < MEMO) {
-                memoKeys[spot] = key;
+                memoKeys[spot] = key + 1;
                 memoSets[spot] = set;
-                memoUsed[spot] = true;
                 memoCount++;
             }
         }

@@ -1,4 +1,5 @@
 import java.io.IOException;
+import java.lang.reflect.Array;
 import java.lang.reflect.Constructor;
 import java.lang.reflect.Field;
 import java.lang.reflect.Method;
@@ -6,7 +7,9 @@ import java.lang.reflect.Modifier;
 import java.nio.file.Files;
 import java.nio.file.Path;
 import java.util.HashSet;
+import java.util.IdentityHashMap;
 import java.util.List;
+import java.util.Map;
 import java.util.Set;
 import java.util.TreeSet;
 import java.util.regex.Matcher;
@@ -122,10 +125,67 @@ public final class RulesTest {
         }
     }
 
-    public static void main(String[] args) throws IOException {
+    private static int objects = 0;
+    private static int elements = 0;
+
+    /** Counts an object or array and all that it holds, each once. */
+    private static void weigh(Object whole, Map<Object, Boolean> seen) throws IllegalAccessException {
+        if (whole == null || seen.put(whole, true) != null) {
+            return;
+        }
+        objects++;
+        Class<?> kind = whole.getClass();
+        if (kind.isArray()) {
+            elements += Array.getLength(whole);
+            for (int i = 0; !kind.getComponentType().isPrimitive() && i < Array.getLength(whole); i++) {
+                weigh(Array.get(whole, i), seen);
+            }
+            return;
+        }
+        for (Field f : kind.getDeclaredFields()) {
+            if (!Modifier.isStatic(f.getModifiers())) {
+                elements++;
+                f.setAccessible(true);
+                if (!f.getType().isPrimitive()) {
+                    weigh(f.get(whole), seen);
+                }
+            }
+        }
+    }
+
+    /** All calls of a run live in one room, so an object must be small. */
+    private static void room() throws IllegalAccessException {
+        weigh(new ProofTrim(), new IdentityHashMap<>());
+        System.out.println("a new object: " + objects + " objects and arrays, " + elements + " fields and elements");
+        if (objects > 100 || elements > 70000) {
+            blame("the room: an object is larger than README.md says");
+        }
+    }
+
+    /** A class, or a constructor, is where rooms are made: nowhere else may 'new' stand. */
+    private static void makers() throws IOException {
+        List<String> lines = Files.readAllLines(Path.of("src/main/java/ProofTrim.java"));
+        Pattern maker = Pattern.compile("^( {4}| {8})(public )?[A-Z][A-Za-z]*\\([^)]*\\) \\{$");
+        Pattern field = Pattern.compile("^( {4}| {8})private (static )?(final )?[A-Za-z\\[\\]]+ [A-Za-z]+ = new .*;$");
+        String end = "";
+        for (int i = 0; i < lines.size(); i++) {
+            String line = lines.get(i);
+            if (maker.matcher(line).matches()) {
+                end = line.substring(0, line.length() - line.stripLeading().length()) + "}";
+            } else if (line.equals(end)) {
+                end = "";
+            } else if (end.isEmpty() && line.matches(".*\\bnew\\b.*") && !line.matches("\\s*(//|\\*|/\\*).*") && !field.matcher(line).matches()) {
+                blame("rule 12: line " + (i + 1) + " makes an object");
+            }
+        }
+    }
+
+    public static void main(String[] args) throws IOException, IllegalAccessException {
         face();
         classes();
         text();
+        makers();
+        room();
         System.out.println(wrong == 0 ? "the rules that can be seen are kept" : wrong + " rules are broken");
         if (wrong != 0) {
             System.exit(1);

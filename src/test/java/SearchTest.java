@@ -227,6 +227,8 @@ public final class SearchTest {
         "and imp imp imp r v v or t p imp imp or r p imp q no r ; and w or or imp or s t imp no no imp w no imp imp imp u u v q",
         "or s imp imp imp imp s imp w w imp v w imp imp w q no no ; imp imp imp or imp t t u imp imp r r imp p p v imp imp t no v",
         "imp and imp u p imp r imp q no and u r ; or t imp imp imp r or no no no t ; and imp imp w v imp w imp no no imp s imp p q",
+        "or t imp imp t imp or p p no no ; imp imp w w or or imp v v imp s no or or imp imp imp t imp q v no no imp r no imp u no",
+        "imp and or imp imp t no no imp imp no t imp t s imp u no s ; imp imp q q or or imp w imp s s or imp v no imp r no imp p no",
         "imp imp v t v ; imp imp or r u no t ; imp imp s imp q no s ; or w imp imp w no no ; or s or imp p p p ; imp imp imp no no no no"};
 
     private static int at;
